@@ -15,7 +15,6 @@ public final class BoxedCore {
     private final int[] text;
     private int size;
     private boolean compiled;
-    private int answer;
     private final long[] arguments;
     private int argumentCount;
     private final Fault fault;
@@ -64,10 +63,21 @@ public final class BoxedCore {
     public int compile() {
         // The same TEXT always reads the same, so it is read only once.
         if (!compiled) {
-            answer = translate();
             compiled = true;
+            fault.clear();
+            clash.clear();
+            types.clear();
+            tree.clear();
+            table.clear();
+            tokens.scan(text, size);
+            parser.readProgram();
+            // A clash of NAMES or LETTERS comes behind every fault of the grammar.
+            if (clash.isTold()) {
+                fault.tell(Fault.CLASH, clash.where());
+            }
+            checker.checkAll();
         }
-        return answer;
+        return fault.isTold() ? -fault.what() : table.size();
     }
 
     public int place() {
@@ -125,26 +135,6 @@ public final class BoxedCore {
         compiled = false;
         argumentCount = 0;
         machine.forget();
-    }
-
-    private int translate() {
-        fault.clear();
-        clash.clear();
-        types.clear();
-        tree.clear();
-        table.clear();
-        tokens.scan(text, size);
-        if (!fault.isTold()) {
-            parser.readProgram();
-        }
-        // A clash of NAMES or LETTERS comes behind every fault of the grammar.
-        if (!fault.isTold() && clash.isTold()) {
-            fault.tell(Fault.CLASH, clash.where());
-        }
-        if (!fault.isTold()) {
-            checker.checkAll();
-        }
-        return fault.isTold() ? -fault.what() : table.size();
     }
 
     private boolean takesArguments(int d) {
@@ -268,7 +258,7 @@ public final class BoxedCore {
             return i >= 0 && i < count ? kinds[i] : END;
         }
 
-        int place(int i) {
+        int placeOf(int i) {
             return i >= 0 && i < count ? places[i] : length;
         }
 
@@ -495,49 +485,51 @@ public final class BoxedCore {
         }
 
         int kind(int type) {
-            return has(type) ? kinds[type] : NONE;
+            return type >= 0 && type < count ? kinds[type] : NONE;
         }
 
         int left(int type) {
-            return has(type) ? lefts[type] : NONE;
+            return type >= 0 && type < count ? lefts[type] : NONE;
         }
 
         int right(int type) {
-            return has(type) ? rights[type] : NONE;
+            return type >= 0 && type < count ? rights[type] : NONE;
         }
 
         /** How many of long, double, LETTERS it has. */
         int leaves(int type) {
-            return has(type) ? leaves[type] : 0;
+            return type >= 0 && type < count ? leaves[type] : 0;
         }
 
         /** One bit for each LETTER in it. */
         int letters(int type) {
-            return has(type) ? masks[type] : 0;
+            return type >= 0 && type < count ? masks[type] : 0;
         }
 
         /** A pair or function of two TYPES; NONE if one of them is none. */
         int make(int kind, int left, int right) {
-            if (!has(left) || !has(right)) {
+            if (left < 0 || left >= count || right < 0 || right >= count) {
                 return NONE;
             }
             int chain = (left * 31 + right * 17 + kind) & (CHAINS - 1);
             int id = heads[chain];
-            for (int turn = 0; turn < count && has(id); turn++) {
+            for (int turn = 0; turn < count && id >= 0 && id < count; turn++) {
                 if (kinds[id] == kind && lefts[id] == left && rights[id] == right) {
                     return id;
                 }
                 id = nexts[id];
             }
-            return add(kind, left, right, chain);
-        }
-
-        private int add(int kind, int left, int right, int chain) {
             if (count >= LAST_ROOM) {
                 return NONE;
             }
             if (count >= kinds.length) {
-                grow(kinds.length * 2);
+                int room = kinds.length * 2;
+                kinds = Arrays.copyOf(kinds, room);
+                lefts = Arrays.copyOf(lefts, room);
+                rights = Arrays.copyOf(rights, room);
+                leaves = Arrays.copyOf(leaves, room);
+                masks = Arrays.copyOf(masks, room);
+                nexts = Arrays.copyOf(nexts, room);
             }
             kinds[count] = kind;
             lefts[count] = left;
@@ -548,19 +540,6 @@ public final class BoxedCore {
             heads[chain] = count;
             count++;
             return count - 1;
-        }
-
-        private void grow(int room) {
-            kinds = Arrays.copyOf(kinds, room);
-            lefts = Arrays.copyOf(lefts, room);
-            rights = Arrays.copyOf(rights, room);
-            leaves = Arrays.copyOf(leaves, room);
-            masks = Arrays.copyOf(masks, room);
-            nexts = Arrays.copyOf(nexts, room);
-        }
-
-        private boolean has(int type) {
-            return type >= 0 && type < count;
         }
     }
 
@@ -644,90 +623,85 @@ public final class BoxedCore {
         }
 
         int kind(int node) {
-            return has(node) ? kinds[node] : NONE;
+            return node >= 0 && node < count ? kinds[node] : NONE;
         }
 
         void turnInto(int node, int kind) {
-            if (has(node)) {
+            if (node >= 0 && node < count) {
                 kinds[node] = kind;
             }
         }
 
-        int place(int node) {
-            return has(node) ? places[node] : NONE;
+        int placeOf(int node) {
+            return node >= 0 && node < count ? places[node] : NONE;
         }
 
         int first(int node) {
-            return has(node) ? firsts[node] : NONE;
+            return node >= 0 && node < count ? firsts[node] : NONE;
         }
 
         int second(int node) {
-            return has(node) ? seconds[node] : NONE;
+            return node >= 0 && node < count ? seconds[node] : NONE;
         }
 
         int third(int node) {
-            return has(node) ? thirds[node] : NONE;
+            return node >= 0 && node < count ? thirds[node] : NONE;
         }
 
         /** The ATOM behind this one in its CALL. */
         int next(int node) {
-            return has(node) ? nexts[node] : NONE;
+            return node >= 0 && node < count ? nexts[node] : NONE;
         }
 
         void chain(int node, int next) {
-            if (has(node)) {
+            if (node >= 0 && node < count) {
                 nexts[node] = next;
             }
         }
 
         int type(int node) {
-            return has(node) ? types[node] : NONE;
+            return node >= 0 && node < count ? types[node] : NONE;
         }
 
         void setType(int node, int type) {
-            if (has(node)) {
+            if (node >= 0 && node < count) {
                 types[node] = type;
             }
         }
 
         long value(int node) {
-            return has(node) ? values[node] : 0;
+            return node >= 0 && node < count ? values[node] : 0;
         }
 
         void setValue(int node, long value) {
-            if (has(node)) {
+            if (node >= 0 && node < count) {
                 values[node] = value;
             }
         }
 
         /** Whether its result goes a SHORT way. */
         boolean isShort(int node) {
-            return has(node) && shorts[node];
+            return node >= 0 && node < count && shorts[node];
         }
 
         void markShort(int node) {
-            if (has(node)) {
+            if (node >= 0 && node < count) {
                 shorts[node] = true;
             }
         }
 
         /** The TYPE that fits a LETTER of the DEF that is called here. */
         int fit(int node, int letter) {
-            return has(node) && isLetter(letter) ? fits[node * Types.LETTERS + letter] : NONE;
+            if (node < 0 || node >= count || letter < 0 || letter >= Types.LETTERS) {
+                return NONE;
+            }
+            return fits[node * Types.LETTERS + letter];
         }
 
         void setFit(int node, int letter, int type) {
-            if (has(node) && isLetter(letter)) {
+            if (node >= 0 && node < count && letter >= 0 && letter < Types.LETTERS) {
                 fits[node * Types.LETTERS + letter] = type;
             }
-        }
-
-        private boolean has(int node) {
-            return node >= 0 && node < count;
-        }
-
-        private static boolean isLetter(int letter) {
-            return letter >= 0 && letter < Types.LETTERS;
         }
     }
 
@@ -799,47 +773,47 @@ public final class BoxedCore {
             return NONE;
         }
 
-        int place(int d) {
-            return has(d) ? places[d] : NONE;
+        int placeOf(int d) {
+            return d >= 0 && d < count ? places[d] : NONE;
         }
 
         int type(int d) {
-            return has(d) ? types[d] : NONE;
+            return d >= 0 && d < count ? types[d] : NONE;
         }
 
         void setType(int d, int type) {
-            if (has(d)) {
+            if (d >= 0 && d < count) {
                 types[d] = type;
             }
         }
 
         /** The EXPR of a DEF. */
         int root(int d) {
-            return has(d) ? roots[d] : NONE;
+            return d >= 0 && d < count ? roots[d] : NONE;
         }
 
         /** Where the EXPRS of the next DEF begin in the tree. */
         int end(int d) {
-            return has(d) ? ends[d] : 0;
+            return d >= 0 && d < count ? ends[d] : 0;
         }
 
         void setRoot(int d, int root, int end) {
-            if (has(d)) {
+            if (d >= 0 && d < count) {
                 roots[d] = root;
                 ends[d] = end;
             }
         }
 
         int parameters(int d) {
-            return tally(d, PARAMETERS);
+            return d >= 0 && d < count ? tallies[d * TALLIES + PARAMETERS] : 0;
         }
 
         int locals(int d) {
-            return has(d) ? localCounts[d] : 0;
+            return d >= 0 && d < count ? localCounts[d] : 0;
         }
 
         int addLocal(int d) {
-            if (!has(d) || localCounts[d] >= LOCALS) {
+            if (d < 0 || d >= count || localCounts[d] >= LOCALS) {
                 return NONE;
             }
             int local = localCounts[d];
@@ -872,21 +846,20 @@ public final class BoxedCore {
         }
 
         int tally(int d, int what) {
-            return has(d) && what >= 0 && what < TALLIES ? tallies[d * TALLIES + what] : 0;
+            if (d < 0 || d >= count || what < 0 || what >= TALLIES) {
+                return 0;
+            }
+            return tallies[d * TALLIES + what];
         }
 
         void count(int d, int what, int more) {
-            if (has(d) && what >= 0 && what < TALLIES) {
+            if (d >= 0 && d < count && what >= 0 && what < TALLIES) {
                 tallies[d * TALLIES + what] += more;
             }
         }
 
-        private boolean has(int d) {
-            return d >= 0 && d < count;
-        }
-
         private boolean hasLocal(int d, int local) {
-            return has(d) && local >= 0 && local < localCounts[d];
+            return d >= 0 && d < count && local >= 0 && local < localCounts[d];
         }
     }
 
@@ -947,9 +920,9 @@ public final class BoxedCore {
                 return;
             }
             if (table.find(tokens.value(nameAt)) != NONE) {
-                clash.tell(Fault.CLASH, tokens.place(nameAt));
+                clash.tell(Fault.CLASH, tokens.placeOf(nameAt));
             }
-            current = table.add(tokens.value(nameAt), tokens.place(nameAt));
+            current = table.add(tokens.value(nameAt), tokens.placeOf(nameAt));
             scopeCount = 0;
             parameterLetters = 0;
             for (int turn = 0; turn < tokens.size() && kind() == Tokens.OPEN; turn++) {
@@ -957,7 +930,7 @@ public final class BoxedCore {
             }
             table.count(current, Table.LETTERS, Integer.bitCount(parameterLetters));
             expect(Tokens.COLON);
-            table.setType(current, readToldType(false));
+            table.setType(current, readType(1, false));
             expect(Tokens.EQUALS);
             int root = readExpr(1);
             expect(Tokens.SEMICOLON);
@@ -972,12 +945,12 @@ public final class BoxedCore {
             int nameAt = at;
             int local = readLocal();
             if (findLocal(tokens.value(nameAt)) != NONE) {
-                clash.tell(Fault.CLASH, tokens.place(nameAt));
+                clash.tell(Fault.CLASH, tokens.placeOf(nameAt));
             }
             bind(tokens.value(nameAt), local);
             table.count(current, Table.PARAMETERS, 1);
             expect(Tokens.COLON);
-            table.setLocalType(current, local, readToldType(true));
+            table.setLocalType(current, local, readType(1, true));
             expect(Tokens.CLOSE);
         }
 
@@ -990,16 +963,14 @@ public final class BoxedCore {
             return fault.isTold() ? NONE : table.addLocal(current);
         }
 
-        private int readToldType(boolean ofParameter) {
-            leafCount = 0;
-            baseCount = 0;
-            return readType(1, ofParameter);
-        }
-
         private int readType(int depth, boolean ofParameter) {
             if (depth > DEPTH_LIMIT) {
                 fault.tell(Fault.DEPTH, here());
                 return NONE;
+            }
+            if (depth == 1) {
+                leafCount = 0;
+                baseCount = 0;
             }
             int part = readPart(depth, ofParameter);
             if (kind() != Tokens.ARROW) {
@@ -1030,9 +1001,11 @@ public final class BoxedCore {
         private int readBase(int depth, boolean ofParameter) {
             switch (kind()) {
                 case Tokens.LONG:
-                    return readLeaf(Types.LONG_TYPE);
+                    countLeaf();
+                    return Types.LONG_TYPE;
                 case Tokens.DOUBLE:
-                    return readLeaf(Types.DOUBLE_TYPE);
+                    countLeaf();
+                    return Types.DOUBLE_TYPE;
                 case Tokens.LETTER:
                     return readLetter(ofParameter);
                 case Tokens.OPEN:
@@ -1054,16 +1027,16 @@ public final class BoxedCore {
             } else if ((parameterLetters & mask) == 0) {
                 clash.tell(Fault.CLASH, here());
             }
-            return readLeaf(types.letter(number));
+            countLeaf();
+            return types.letter(number);
         }
 
-        private int readLeaf(int type) {
+        private void countLeaf() {
             if (leafCount >= LEAF_LIMIT) {
-                fault.tell(Fault.NUMBER, here());
+                fault.tell(Fault.NUMBER, tokens.placeOf(at));
             }
             leafCount++;
             at++;
-            return type;
         }
 
         private void pushBase(int type) {
@@ -1131,7 +1104,7 @@ public final class BoxedCore {
             int nameAt = at;
             int local = readLocal();
             expect(Tokens.COLON);
-            table.setLocalType(current, local, readToldType(false));
+            table.setLocalType(current, local, readType(1, false));
             expect(Tokens.CLOSE);
             expect(Tokens.ARROW);
             bind(tokens.value(nameAt), local);
@@ -1188,8 +1161,7 @@ public final class BoxedCore {
         }
 
         private int readAtoms(int head, int depth) {
-            int first = NONE;
-            int last = NONE;
+            int last = head;
             int count = 0;
             for (int turn = 0; turn <= ATOM_LIMIT && beginsAtom(); turn++) {
                 if (turn == ATOM_LIMIT) {
@@ -1197,12 +1169,11 @@ public final class BoxedCore {
                 } else {
                     int atom = readAtom(depth);
                     tree.chain(last, atom);
-                    first = turn == 0 ? atom : first;
                     last = atom;
                     count++;
                 }
             }
-            return tree.add(Tree.CALL, tree.place(head), head, first, count);
+            return tree.add(Tree.CALL, tree.placeOf(head), head, NONE, count);
         }
 
         private int readAtom(int depth) {
@@ -1278,7 +1249,7 @@ public final class BoxedCore {
         }
 
         private int here() {
-            return tokens.place(at);
+            return tokens.placeOf(at);
         }
 
         private void expect(int kind) {
@@ -1317,7 +1288,7 @@ public final class BoxedCore {
                     checkNode(node);
                 }
                 if (tree.type(table.root(d)) != table.type(d)) {
-                    fault.tell(Fault.TYPE, table.place(d));
+                    fault.tell(Fault.TYPE, table.placeOf(d));
                 }
             }
             if (!fault.isTold()) {
@@ -1335,7 +1306,7 @@ public final class BoxedCore {
             }
             int type = typeOf(node);
             if (type == NONE || types.leaves(type) > LEAF_LIMIT) {
-                fault.tell(Fault.TYPE, tree.place(node));
+                fault.tell(Fault.TYPE, tree.placeOf(node));
             }
             tree.setType(node, type);
         }
@@ -1343,13 +1314,13 @@ public final class BoxedCore {
         private void resolve(int node) {
             int d = table.find(tree.value(node));
             if (d == NONE) {
-                fault.tell(Fault.UNKNOWN, tree.place(node));
+                fault.tell(Fault.UNKNOWN, tree.placeOf(node));
             } else if (table.parameters(d) == 0) {
                 tree.turnInto(node, Tree.DEF_NAME);
             } else if (tree.kind(node) == Tree.HEAD) {
                 tree.turnInto(node, Tree.CALLEE);
             } else {
-                fault.tell(Fault.TYPE, tree.place(node));
+                fault.tell(Fault.TYPE, tree.placeOf(node));
             }
             tree.setValue(node, d);
         }
@@ -1399,7 +1370,7 @@ public final class BoxedCore {
         private int typeOfCall(int node) {
             int head = tree.first(node);
             int type = tree.type(head);
-            int atom = tree.second(node);
+            int atom = tree.next(tree.first(node));
             int atoms = tree.third(node);
             int taken = 0;
             if (tree.kind(head) == Tree.CALLEE) {
@@ -1426,7 +1397,7 @@ public final class BoxedCore {
         }
 
         private boolean fitAtoms(int node, int d) {
-            int atom = tree.second(node);
+            int atom = tree.next(tree.first(node));
             for (int i = 0; i < table.parameters(d); i++) {
                 int pattern = table.localType(d, i);
                 if (!fit(pattern, tree.type(atom), node, 0)) {
@@ -1455,18 +1426,15 @@ public final class BoxedCore {
                 return pattern == type;
             }
             if (types.kind(pattern) == Types.LETTER) {
-                return fitLetter(types.letterNumber(pattern), type, node);
+                int letter = types.letterNumber(pattern);
+                if (tree.fit(node, letter) == NONE) {
+                    tree.setFit(node, letter, type);
+                }
+                return tree.fit(node, letter) == type;
             }
             return types.kind(pattern) == types.kind(type)
                     && fit(types.left(pattern), types.left(type), node, depth + 1)
                     && fit(types.right(pattern), types.right(type), node, depth + 1);
-        }
-
-        private boolean fitLetter(int letter, int type, int node) {
-            if (tree.fit(node, letter) == NONE) {
-                tree.setFit(node, letter, type);
-            }
-            return tree.fit(node, letter) == type;
         }
 
         /** A DEF's TYPE with what fits the LETTERS at this CALL. */
@@ -1501,7 +1469,7 @@ public final class BoxedCore {
 
         private void countCall(int d, int node) {
             int callee = (int) tree.value(node);
-            int atom = tree.second(node);
+            int atom = tree.next(tree.first(node));
             table.count(d, Table.CALLS, 1);
             for (int i = 0; i < table.parameters(callee); i++) {
                 if (tree.isShort(atom)) {
@@ -1586,23 +1554,23 @@ public final class BoxedCore {
 
         long openBox(long box) {
             opened++;
-            return first(box);
+            return box >= 0 && box < count ? firsts[(int) box] : 0;
         }
 
         int kind(long item) {
-            return has(item) ? kinds[(int) item] : NONE;
+            return item >= 0 && item < count ? kinds[(int) item] : NONE;
         }
 
         long first(long item) {
-            return has(item) ? firsts[(int) item] : 0;
+            return item >= 0 && item < count ? firsts[(int) item] : 0;
         }
 
         long second(long item) {
-            return has(item) ? seconds[(int) item] : 0;
+            return item >= 0 && item < count ? seconds[(int) item] : 0;
         }
 
         int site(long item) {
-            return has(item) ? sites[(int) item] : NONE;
+            return item >= 0 && item < count ? sites[(int) item] : NONE;
         }
 
         /** Room for the locals of a call that begins; NONE when there would be too many. */
@@ -1616,21 +1584,17 @@ public final class BoxedCore {
         }
 
         long local(int base, int i) {
-            return hasLocal(base + i) ? locals[base + i] : 0;
+            return hasLocal(base, i) ? locals[base + i] : 0;
         }
 
         void setLocal(int base, int i, long value) {
-            if (hasLocal(base + i)) {
+            if (hasLocal(base, i)) {
                 locals[base + i] = value;
             }
         }
 
-        private boolean has(long item) {
-            return item >= 0 && item < count;
-        }
-
-        private boolean hasLocal(int i) {
-            return i >= 0 && i < localCount;
+        private boolean hasLocal(int base, int i) {
+            return base >= 0 && i >= 0 && i < localCount - base;
         }
     }
 
@@ -1688,10 +1652,12 @@ public final class BoxedCore {
             }
             switch (types.kind(type)) {
                 case Types.LONG:
-                    addResult(boxOrOpen(Heap.LONG_BOX, value, boxing));
+                    addResult(boxing ? heap.make(Heap.LONG_BOX, value, 0, NONE)
+                            : heap.openBox(value));
                     return;
                 case Types.DOUBLE:
-                    addResult(boxOrOpen(Heap.DOUBLE_BOX, value, boxing));
+                    addResult(boxing ? heap.make(Heap.DOUBLE_BOX, value, 0, NONE)
+                            : heap.openBox(value));
                     return;
                 case Types.PAIR:
                     addTask(JOIN, NONE, 0);
@@ -1703,21 +1669,14 @@ public final class BoxedCore {
                     addResult(heap.make(cover, value, type, site));
                     return;
                 default:
-                    adaptLetter(type, site, value);
+                    break;
             }
-        }
-
-        private void adaptLetter(int type, int site, long value) {
             int fit = tree.fit(site, types.letterNumber(type));
             if (fit == NONE) {
                 addResult(value);
             } else {
                 addTask(fit, NONE, value);
             }
-        }
-
-        private long boxOrOpen(int kind, long value, boolean boxing) {
-            return boxing ? heap.make(kind, value, 0, NONE) : heap.openBox(value);
         }
 
         private void addTask(int type, int site, long value) {
@@ -1821,7 +1780,7 @@ public final class BoxedCore {
             return depth > 0 ? bases[depth - 1] : 0;
         }
 
-        /** The ATOM that is worked next. */
+        /** The ATOM of a CALL that was worked last. */
         int atom() {
             return depth > 0 ? atoms[depth - 1] : NONE;
         }
@@ -1924,10 +1883,16 @@ public final class BoxedCore {
             }
             goInto(table.root(d), base);
             for (int turn = 0; turn < TURNS && ending == RUNNING; turn++) {
-                takeTurn();
-                if (heap.isOver()) {
-                    ending = FULL;
+                if (mode == ENTER) {
+                    enter();
+                } else if (mode == APPLY) {
+                    applyCallee();
+                } else if (frames.isEmpty()) {
+                    ending = WELL;
+                } else {
+                    resume();
                 }
+                ending = heap.isOver() ? FULL : ending;
             }
             return ending;
         }
@@ -2016,23 +1981,6 @@ public final class BoxedCore {
             return 31 - Integer.numberOfLeadingZeros(way);
         }
 
-        private void takeTurn() {
-            switch (mode) {
-                case ENTER:
-                    enter();
-                    return;
-                case APPLY:
-                    applyCallee();
-                    return;
-                default:
-                    if (frames.isEmpty()) {
-                        ending = WELL;
-                    } else {
-                        resume();
-                    }
-            }
-        }
-
         private void goInto(int node, int localBase) {
             target = node;
             base = localBase;
@@ -2059,7 +2007,9 @@ public final class BoxedCore {
 
         private void workPart(int node, int nextState) {
             frames.setState(nextState);
-            goInto(node, frames.base());
+            target = node;
+            base = frames.base();
+            mode = ENTER;
         }
 
         private void resume() {
@@ -2173,7 +2123,7 @@ public final class BoxedCore {
         }
 
         private void beginCall(int node) {
-            frames.setAtom(tree.second(node));
+            frames.setAtom(tree.first(node));
             if (tree.kind(node) == Tree.CALL) {
                 workPart(tree.first(node), ONE);
             } else if (tree.kind(node) == Tree.DEF_CALL) {
@@ -2184,29 +2134,22 @@ public final class BoxedCore {
         }
 
         private void workAtom(int nextState) {
-            int atom = frames.atom();
-            frames.setAtom(tree.next(atom));
-            workPart(atom, nextState);
+            frames.setAtom(tree.next(frames.atom()));
+            workPart(frames.atom(), nextState);
         }
 
         private void takeArgument(int node) {
             int d = (int) tree.value(node);
             int number = frames.heldCount();
-            frames.hold(boxing ? adaptArgument(node, number) : value);
+            if (boxing && !tree.isShort(frames.atom())) {
+                value = adapter.adapt(value, table.localType(d, number), node, true);
+            }
+            frames.hold(value);
             if (number + 1 < table.parameters(d)) {
                 workAtom(ARGUMENT);
             } else {
                 callDef(node);
             }
-        }
-
-        private long adaptArgument(int node, int number) {
-            int atom = tree.second(node);
-            for (int i = 0; i < number; i++) {
-                atom = tree.next(atom);
-            }
-            int pattern = table.localType((int) tree.value(node), number);
-            return tree.isShort(atom) ? value : adapter.adapt(value, pattern, node, true);
         }
 
         private void callDef(int node) {
@@ -2223,12 +2166,12 @@ public final class BoxedCore {
             if (boxing && !tree.isShort(node)) {
                 value = adapter.adapt(value, table.type((int) tree.value(node)), node, false);
             }
-            goOnCalling();
+            frames.setState(ONE);
         }
 
         /** The value is a function for the ATOMS that are left, or else the result. */
         private void goOnCalling() {
-            if (frames.atom() == NONE) {
+            if (tree.next(frames.atom()) == NONE) {
                 finish(value);
             } else {
                 frames.dropHeld();
