@@ -1,0 +1,95 @@
+/** Compares answers, prints those that are not due, and ends with exit code 1 if there was one. */
+final class Check {
+    private int wrong;
+    private int right;
+
+    interface Call {
+        long answer();
+    }
+
+    void same(String what, long due, long was) {
+        if (due == was) {
+            right++;
+        } else {
+            wrong++;
+            System.out.println(what + ": due " + due + ", was " + was);
+        }
+    }
+
+    void illegalArgument(String what, Call call) {
+        throwing(what, IllegalArgumentException.class, call);
+    }
+
+    void illegalState(String what, Call call) {
+        throwing(what, IllegalStateException.class, call);
+    }
+
+    void outOfBounds(String what, Call call) {
+        throwing(what, IndexOutOfBoundsException.class, call);
+    }
+
+    private void throwing(String what, Class<?> due, Call call) {
+        String was;
+        try {
+            was = "answer " + call.answer();
+        } catch (RuntimeException e) {
+            was = e.getClass().getName();
+        }
+        if (due.getName().equals(was)) {
+            right++;
+        } else {
+            wrong++;
+            System.out.println(what + ": due " + due.getName() + ", was " + was);
+        }
+    }
+
+    /** A text must compile to so many DEFS. */
+    BoxedCore compiled(String text, int defs) {
+        BoxedCore core = fed(text);
+        same("compile " + text, defs, core.compile());
+        same("place of " + text, BoxedCore.NONE, core.place());
+        return core;
+    }
+
+    /** A text must have a fault at a place. */
+    void fault(String text, int fault, int place) {
+        BoxedCore core = fed(text);
+        same("compile " + text, -fault, core.compile());
+        same("place of " + text, place, core.place());
+        same("defs of " + text, 0, core.defs());
+    }
+
+    /** A text must have a fault where the first '@' stands, which is taken out. */
+    void faultAt(String text, int fault) {
+        int place = text.indexOf('@');
+        fault(text.substring(0, place) + text.substring(place + 1), fault, place);
+    }
+
+    static BoxedCore fed(String text) {
+        BoxedCore core = new BoxedCore();
+        feed(core, text);
+        return core;
+    }
+
+    static void feed(BoxedCore core, String text) {
+        for (int i = 0; i < text.length(); i += 8) {
+            int n = Math.min(8, text.length() - i);
+            long octets = 0;
+            for (int j = n - 1; j >= 0; j--) {
+                octets = octets << 8 | text.charAt(i + j) & 255;
+            }
+            core.feed(n, octets);
+        }
+    }
+
+    static String times(int n, String text) {
+        return text.repeat(n);
+    }
+
+    void end() {
+        System.out.println(right + " answers as due, " + wrong + " not");
+        if (wrong > 0) {
+            System.exit(1);
+        }
+    }
+}
