@@ -16,6 +16,19 @@ final class Check {
         }
     }
 
+    void equal(String what, String due, String was) {
+        if (due.equals(was)) {
+            right++;
+        } else {
+            wrong++;
+            System.out.println(what + ": due " + due + ", was " + was);
+        }
+    }
+
+    int failures() {
+        return wrong;
+    }
+
     void illegalArgument(String what, Call call) {
         throwing(what, IllegalArgumentException.class, call);
     }
