@@ -7,6 +7,7 @@ final class FaultsTest {
         test.wellRead();
         test.tokens();
         test.tokenLimits();
+        test.namesAreToldApart();
         test.grammar();
         test.depths();
         test.chains();
@@ -76,6 +77,24 @@ final class FaultsTest {
         check.fault(Check.times(900, "x ") + "$", 1, 1800);
         check.fault(Check.times(900, "x ") + "  abcdefghijk", 1, 1802);
         check.fault(Check.times(900, "x ") + "   \n ", 2, 2);
+    }
+
+    private void namesAreToldApart() {
+        String octets = "abcdefghijklmnopqrstuvwxyz0123456789";
+        for (int i = 0; i < octets.length(); i++) {
+            BoxedCore core = new BoxedCore();
+            for (int j = 0; j < octets.length(); j++) {
+                String text = "x" + octets.charAt(i) + " : long = x" + octets.charAt(j) + ";";
+                core.wipe();
+                Check.feed(core, text);
+                check.same(text, i == j ? 1 : -6, core.compile());
+            }
+        }
+        check.faultAt("xa : long = @x;", 6);
+        check.faultAt("x : long = @xa;", 6);
+        check.faultAt("x : long = @ax;", 6);
+        check.faultAt("abcdefghij : long = @bbcdefghij;", 6);
+        check.faultAt("abcdefghij : long = @abcdefghi;", 6);
     }
 
     private void grammar() {

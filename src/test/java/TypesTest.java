@@ -17,6 +17,7 @@ final class TypesTest {
         test.places();
         test.order();
         test.greatTypes();
+        test.manyTypes();
         test.check.end();
     }
 
@@ -193,5 +194,42 @@ final class TypesTest {
         check.faultAt("dup (x : 'a) : 'a * 'a = (x, x); " + text + "let j = @dup g in 1;", 7);
         check.compiled("dup (x : 'a) : 'a * 'a = (x, x); " + text + "let j = dup f in 1;", 2);
         check.compiled(ID + text + "let j = id i in 1;", 2);
+    }
+
+    /** A TYPE of 97 leaves, each pair of which has in it what stands at its end. */
+    private static String chain(String end) {
+        String type = end;
+        for (int level = 0; level < 12; level++) {
+            type = Check.times(8, "long*") + "(" + type + ")";
+        }
+        return type;
+    }
+
+    private void manyTypes() {
+        // 24 TYPES for 'a, and with each of them 96 pairs that are not alike.
+        StringBuilder text = new StringBuilder("big (x : 'a) : " + chain("'a") + " = big x;");
+        for (int d = 0; d < 4; d++) {
+            text.append(" d" + d + " : long = ");
+            for (int i = 6 * d; i < 6 * d + 6; i++) {
+                text.append("let b = big " + pairOf(i + 2) + " in ");
+            }
+            text.append("1; ");
+        }
+        check.compiled(text + "z : " + chain("long*double") + " = big (1, #1);", 6);
+        check.faultAt(text + "@z : " + chain("double*long") + " = big (1, #1);", 7);
+        String deep = "deep (p : " + chain("'a") + ") : 'a = deep p; ";
+        check.compiled(deep + "x (p : " + chain("double") + ") : double = deep p;", 2);
+        check.faultAt(deep + "@x (p : " + chain("double") + ") : long = deep p;", 7);
+        check.faultAt(deep + "x (p : " + chain("long").replaceFirst("long", "double")
+                + ") : long = @deep p;", 7);
+    }
+
+    /** As many numbers as i has bits behind the highest, which tell longs from doubles. */
+    private static String pairOf(int i) {
+        String pair = (i & 1) == 0 ? "1" : "#1";
+        for (int rest = i >> 1; rest > 1; rest >>= 1) {
+            pair = ((rest & 1) == 0 ? "(1, " : "(#1, ") + pair + ")";
+        }
+        return pair;
     }
 }

@@ -12,7 +12,7 @@ final class Check {
             right++;
         } else {
             wrong++;
-            System.out.println(what + ": due " + due + ", was " + was);
+            print(what, "" + due, "" + was);
         }
     }
 
@@ -21,8 +21,13 @@ final class Check {
             right++;
         } else {
             wrong++;
-            System.out.println(what + ": due " + due + ", was " + was);
+            print(what, due, was);
         }
+    }
+
+    private static void print(String what, String due, String was) {
+        String brief = what.length() > 300 ? what.substring(0, 300) + " .." : what;
+        System.out.println(brief + ": due " + due + ", was " + was);
     }
 
     int failures() {
@@ -52,7 +57,7 @@ final class Check {
             right++;
         } else {
             wrong++;
-            System.out.println(what + ": due " + due.getName() + ", was " + was);
+            print(what, due.getName(), was);
         }
     }
 
