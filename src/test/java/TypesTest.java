@@ -196,9 +196,9 @@ final class TypesTest {
         check.compiled(ID + text + "let j = id i in 1;", 2);
     }
 
-    /** A TYPE of 97 leaves, each pair of which has in it what stands at its end. */
+    /** A TYPE of 98 leaves, each pair of which has in it what stands at its end. */
     private static String chain(String end) {
-        String type = end;
+        String type = "long->" + end;
         for (int level = 0; level < 12; level++) {
             type = Check.times(8, "long*") + "(" + type + ")";
         }
@@ -206,7 +206,7 @@ final class TypesTest {
     }
 
     private void manyTypes() {
-        // 24 TYPES for 'a, and with each of them 96 pairs that are not alike.
+        // 24 TYPES for 'a, and with each of them 97 that are not like any others.
         StringBuilder text = new StringBuilder("big (x : 'a) : " + chain("'a") + " = big x;");
         for (int d = 0; d < 4; d++) {
             text.append(" d" + d + " : long = ");
