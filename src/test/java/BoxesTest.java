@@ -134,5 +134,18 @@ final class BoxesTest {
         check.same("none is opened", 0, core.told(2));
         check.same("all steps", 1, core.run(1, true, 4));
         check.same("one is opened", 1, core.told(2));
+        // What goes through a COVER is adapted before what it covers is called, the result behind.
+        core = check.compiled(ID + "x : long = id " + INC + " 4;", 2);
+        int[][] due = {{4, 1, 1, 2}, {5, 1, 1, 2}, {6, 1, 1, 2}, {7, 2, 2, 2}};
+        for (int[] counts : due) {
+            check.same("with so many steps", counts[0] < 7 ? 2 : 1, core.run(1, true, counts[0]));
+            check.same("boxes of " + counts[0], counts[1], core.told(1));
+            check.same("opened of " + counts[0], counts[2], core.told(2));
+            check.same("covers called of " + counts[0], counts[3], core.told(7));
+        }
+        // The ATOM comes before the function that is before it is called.
+        check.same("no ATOM yet", 2, core.run(1, true, 3));
+        check.same("no COVER is called", 0, core.told(7));
+        check.same("but both are made", 2, core.told(3));
     }
 }

@@ -83,6 +83,25 @@ final class Check {
         fault(text.substring(0, place) + text.substring(place + 1), fault, place);
     }
 
+    /** All that an object tells without being changed by it. */
+    static String seen(BoxedCore core) {
+        StringBuilder seen = new StringBuilder();
+        seen.append("place ").append(core.place()).append(" defs ").append(core.defs());
+        for (int d = 0; d < core.defs(); d++) {
+            for (int what = 0; what < 6; what++) {
+                seen.append(' ').append(core.def(d, what));
+            }
+        }
+        seen.append(" told");
+        for (int what = 0; what < 8; what++) {
+            seen.append(' ').append(core.told(what));
+        }
+        for (int way = -1; way < 16; way++) {
+            seen.append(" at ").append(core.sort(way)).append(' ').append(core.result(way));
+        }
+        return seen.toString();
+    }
+
     static BoxedCore fed(String text) {
         BoxedCore core = new BoxedCore();
         feed(core, text);
