@@ -11,6 +11,7 @@ final class BoxesTest {
         test.pairs();
         test.functions();
         test.patterns();
+        test.results();
         test.lettersStay();
         test.shortWays();
         test.coversTakeDepth();
@@ -82,6 +83,17 @@ final class BoxesTest {
         // The result is adapted back: it comes boxed and is opened, what it takes is boxed.
         counts("k (x : 'a) (z : 'b) : 'b -> 'a = fn (y : 'b) -> x; x : long = k 3 #1 #2;", 3,
                 6, 3, 1, 1, 0, 1, 3, 1);
+    }
+
+    /** Of a result only the parts that have a LETTER are adapted back. */
+    private void results() {
+        counts("f (x : 'a) : 'a * long = (x, 8); x : long = snd (f 7);", 8, 6, 1, 1, 0, 2, 0, 4, 0);
+        counts("f (x : 'a) : long * long = (7, 8); x : long = snd (f 7);", 8, 6, 1, 0, 0, 1, 0, 4, 0);
+        counts("g (x : 'a) : long -> 'a = fn (y : long) -> x; x : long = g 7 8;", 7, 5, 1, 1, 1, 0, 1, 3, 1);
+        counts("g (x : 'a) : 'a -> long = fn (y : 'a) -> 5; x : long = g 7 8;", 5, 5, 2, 0, 1, 0, 1, 3, 1);
+        counts("g (x : 'a) : long -> long = fn (y : long) -> y; x : long = g 7 8;", 8, 5, 1, 0, 0, 0, 1, 2, 0);
+        counts("g (x : 'a) : long * (long -> 'a) = (5, fn (y : long) -> x); x : long = (snd (g 7)) 8;", 7,
+                9, 1, 1, 1, 2, 1, 5, 1);
     }
 
     private void lettersStay() {

@@ -88,6 +88,10 @@ final class DefsTest {
         tallies(ID + "x (n : long) : long = id (if n then id n else id n);", 1, 0, 3, 3, 3, 0);
         // The TYPE of the PARAMETER, or of the DEF within, is more than a LETTER, or less.
         tallies(ID + "f (p : 'a * 'b) : 'a = fst p; x : long = f (id (1, 2));", 0, 0, 2, 2, 2, 0);
+        tallies(ID + "f (g : 'a -> 'a) : long = 1; x (g : long -> long) : long = f (id g);",
+                1, 0, 2, 2, 1, 0);
+        tallies(ID + "f (g : 'a) : long = 1; x (g : long -> long) : long = f (id g);",
+                1, 0, 2, 1, 0, 1);
         tallies(ID + "d (x : 'a) : 'a * 'a = (x, x); x : long = fst (id (d 1));", 0, 0, 2, 2, 2, 0);
         tallies(ID + "p (n : long) : long = n; x : long = p (id (p 1));", 0, 0, 3, 1, 1, 0);
         tallies(ID + "k (x : 'a) (y : 'b) : 'b = y; x : double = k (id 1) (k 2 (id #3));",
